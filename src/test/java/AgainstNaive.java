@@ -22,7 +22,7 @@ final class AgainstNaive {
         for (int[] told : FIELDS) {
             AgainstNaive test = new AgainstNaive(told);
             test.numbers();
-            for (int k = 0; k < 6; k++) {
+            for (int k = 0; k < 12; k++) {
                 test.products();
                 test.partsAndMultiples();
                 test.placesOf();

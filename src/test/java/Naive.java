@@ -13,6 +13,8 @@ final class Naive {
     final int c;
     final int size;
     final int round;
+    private final int[] turned;
+    private final int[] inverse;
 
     Naive(int m, int p, int s, int c) {
         this.m = m;
@@ -27,6 +29,14 @@ final class Naive {
             }
         }
         this.round = r;
+        this.turned = new int[size];
+        this.inverse = new int[size];
+        for (int a = 0; a < size; a++) {
+            turned[a] = turnedOnce(a);
+            for (int b = 1; b < size; b++) {
+                inverse[a] = mul(a, b) == 1 ? b : inverse[a];
+            }
+        }
     }
 
     String script() {
@@ -51,20 +61,19 @@ final class Naive {
     }
 
     int inv(int a) {
-        for (int b = 1; b < size; b++) {
-            if (mul(a, b) == 1) {
-                return b;
-            }
+        return inverse[a];
+    }
+
+    private int turnedOnce(int a) {
+        int whole = 1;
+        for (int k = 0; k < 1 << s; k++) {
+            whole = mul(whole, a);
         }
-        throw new IllegalStateException("no inverse");
+        return whole;
     }
 
     int t(int a) {
-        int turned = 1;
-        for (int k = 0; k < 1 << s; k++) {
-            turned = mul(turned, a);
-        }
-        return turned;
+        return turned[a];
     }
 
     int t(int a, int times) {
