@@ -986,17 +986,21 @@ public final class TurnedRing {
 
     /** Field, NAMES, POINTS and what can be undone. */
     private static final class State {
-        int bits = 1;
-        int modulus = 3;
-        int power = 0;
-        int slant = 0;
-        int nameCount = 0;
-        int pointCount = 0;
-        int undoCount = 0;
+        int bits;
+        int modulus;
+        int power;
+        int slant;
+        int nameCount;
+        int pointCount;
+        int undoCount;
         private final Polynomial[] names = polynomials(MOST_NAMES);
         private final int[] points = new int[MOST_POINTS];
         private final Polynomial[] undoTold = polynomials(MOST_UNDONE);
         private final int[] undoNames = new int[MOST_UNDONE];
+
+        State() {
+            begin();
+        }
 
         void begin() {
             bits = 1;
@@ -1168,8 +1172,9 @@ public final class TurnedRing {
             return faultKind == 0 && (kind != END || length > MOST_SCRIPT);
         }
 
+        /** Whether field, turn or slope comes where it can. */
         boolean isAtHead() {
-            return faultKind == 0 && isHead();
+            return faultKind == 0 && isHead() && keyword(content) >= nextHead;
         }
 
         private boolean isHead() {
@@ -1204,10 +1209,6 @@ public final class TurnedRing {
 
         void headLine() {
             int head = keyword(content);
-            if (head < nextHead) {
-                refuse(NO_SUCH_NAME, place);
-                return;
-            }
             nextHead = head + 1;
             scan();
             if (!isHeadNumber(head)) {
@@ -1275,7 +1276,7 @@ public final class TurnedRing {
             return left;
         }
 
-        /** A LINE behind those of field, turn, slope. */
+        /** A LINE behind those of field, turn, slope: one of these that comes yet comes too late. */
         void nameLine() {
             int code = content;
             if (kind != WORD || keyword(code) != NONE) {

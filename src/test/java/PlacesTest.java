@@ -77,7 +77,11 @@ final class PlacesTest {
             "field 8 283;", "field 8 283;turn 1;"};
         int[] classes = {2, 4, 4, 2, 16, 256, 2};
         for (int k = 0; k < fields.length; k++) {
-            Due.due("classes of " + fields[k], Probe.of(fields[k]).ring.classes(), classes[k]);
+            Probe probe = Probe.of(fields[k]);
+            Due.due("classes of " + fields[k], probe.ring.classes(), classes[k]);
+            Due.due("classes again of " + fields[k], probe.ring.classes(), classes[k]);
+            probe.script("field 2 7;turn 1;");
+            Due.due("classes behind those of " + fields[k], probe.ring.classes(), 2);
             Due.due("kin of itself in " + fields[k], Probe.of(fields[k]).ring.kin(1, 1), 1);
         }
     }

@@ -280,30 +280,35 @@ final class PolynomialTest {
         probe.ring.makes(0, 1, 0);
         probe.script(FOUR + "a=1;");
         Due.due("the highest number is of another field", probe.ring.keep(0, 0), false);
+        probe.script("field 3 11;a=4;");
+        probe.ring.makes(0, 0, 1);
+        probe.script(FOUR + "a=1;");
+        Due.due("the lowest number is of another field", probe.ring.keep(0, 0), false);
+        Due.due("the name as it was", probe.named(0), "1");
     }
 
     private static void sixteen() {
-        Probe probe = Probe.of("a=x;b=1;c=0;");
-        for (int k = 1; k <= 20; k++) {
-            probe.ring.makes(k % 2, 1 - k % 2, 0);
-            Due.due("keep " + k, probe.ring.keep(k % 2, 0), true);
-            Due.due("can be undone", probe.ring.count(7), Math.min(k, 16));
-        }
+        int[] kept = {0, 1, 1, 2, 0, 0, 2, 1, 0, 2, 2, 2, 1, 0, 1, 0, 2, 1, 1, 0, 2};
+        Probe probe = Probe.of("field 8 283;turn 1;slope 3;a=x;b=7;c=x+200;");
         String[] told = new String[21];
-        Probe again = Probe.of("a=x;b=1;c=0;");
-        told[0] = again.named(0) + "/" + again.named(1);
+        told[0] = three(probe);
         for (int k = 1; k <= 20; k++) {
-            again.ring.makes(k % 2, 1 - k % 2, 0);
-            again.ring.keep(k % 2, 0);
-            told[k] = again.named(0) + "/" + again.named(1);
+            probe.ring.makes(kept[k - 1], kept[k], k % 3 == 0 ? 1 : 0);
+            Due.due("keep " + k, probe.ring.keep(kept[k], 0), true);
+            Due.due("can be undone", probe.ring.count(7), Math.min(k, 16));
+            told[k] = three(probe);
         }
         for (int k = 19; k >= 4; k--) {
             Due.due("undo to " + k, probe.ring.undo(), k - 4);
-            Due.due("as ahead of " + k, probe.named(0) + "/" + probe.named(1), told[k]);
+            Due.due("as ahead of " + k, three(probe), told[k]);
         }
         Due.due("no more than 16", probe.ring.undo(), -1);
-        Due.due("stays", probe.named(0) + "/" + probe.named(1), told[4]);
+        Due.due("stays", three(probe), told[4]);
         probe.ring.keep(2, 0);
         Due.due("one again", probe.ring.undo(), 0);
+    }
+
+    private static String three(Probe probe) {
+        return probe.named(0) + "/" + probe.named(1) + "/" + probe.named(2);
     }
 }

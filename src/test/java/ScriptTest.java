@@ -54,6 +54,7 @@ final class ScriptTest {
         lines(12, TWELVE);
         lines(14, TWELVE + "a=x;l=a;");
         lines(2, "abcdef=1;abcdeg=abcdef;");
+        lines(5, "abcdef=1;bbcdef=1;ebcdef=1;ibcdef=1;qbcdef=abcdef;");
         lines(2, "fields=1;turns=fields;");
         lines(2, "xx=1;xy=xx;");
         for (int p : new int[] {2, 3}) {
@@ -184,7 +185,8 @@ final class ScriptTest {
         for (String marked : new String[] {"turn 0;|field 2 7;", "field 2 7;|field 2 7;", "slope 0;|turn 0;",
             "slope 0;|field 1 3;", "turn 0;|turn 0;", "slope 0;|slope 0;", "a=1;|field 1 3;", "a=1;|turn 0;",
             "a=1;|slope 0;", "field 2 7;slope 1;|turn 1;", "a=|a;", "a=|b;", "a=1;b=a*|c;", "a=gcd(1,|b);", "a=|fiel;",
-            "a=1;|field", "turn 0;|field =", "a=|b", "a=1;b=|ab;", "ab=1;b=|a;", "abcdef=1;b=|abcdeg;"}) {
+            "a=1;|field", "turn 0;|field =", "a=|b", "a=1;b=|ab;", "ab=1;b=|a;", "abcdef=1;b=|abcdeg;", "abcdef=1;b=|bbcdef;",
+            "abcdef=1;b=|ebcdef;", "abcdef=1;b=|qbcdef;", "abcdef=1;b=|bcdef;", "a=1;b=|aa;"}) {
             fault(3, marked);
         }
     }
