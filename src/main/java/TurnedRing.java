@@ -1595,7 +1595,7 @@ public final class TurnedRing {
             return wanted != ALL && found > wanted;
         }
 
-        /** All factorings of what is left behind so many factors; a last factor that is none of lesser degree is all of it. */
+        /** All factorings of what is left behind so many factors; where none of a lesser degree divides it, it is a factor itself. */
         private void search(Ring ring, int depth) {
             if (depth < 0 || depth > MOST_FACTORED) {
                 return;
