@@ -325,13 +325,10 @@ public final class TurnedRing {
             return NOT_TOLD;
         }
         int n = f.top();
-        if (g.top() != n) {
-            return 0;
-        }
-        if (!ring.field.isFew(n)) {
+        if (!ring.field.isFew(n) || !ring.field.isFew(g.top())) {
             return NOT_TOLD;
         }
-        return n == 0 || areLike(f, g, n) ? 1 : 0;
+        return g.top() == n && (n == 0 || areLike(f, g, n)) ? 1 : 0;
     }
 
     /** f h is a MULTIPLE of h by itself, so of g too where it leaves no rest by g: these h are all sums of a few. */
@@ -1480,7 +1477,8 @@ public final class TurnedRing {
             while (behind < limit && (signAt(behind) == 32 || signAt(behind) == 10)) {
                 behind++;
             }
-            place = behind;
+            // A TOKEN that is read whole may have led behind the limit: the end is the limit all the same.
+            place = Math.min(behind, limit);
             content = 0;
             if (behind >= limit) {
                 kind = END;

@@ -245,12 +245,46 @@ final class ScriptTest {
         fault(4, "a=x^16|*" + " ".repeat(492) + "x;    ");
         fault(1, " ".repeat(490) + "|=" + " ".repeat(40));
         fault(1, " ".repeat(500) + "|" + " ".repeat(40));
+        acrossFiveHundred();
         StringBuilder longest = new StringBuilder("a=x;");
         while (longest.length() < 500) {
             longest.append("a=a;");
         }
         lines(125, longest.toString());
         fault(1, longest + "|a=a;");
+    }
+
+    /** A TOKEN that begins ahead of byte 500 is read whole; what comes behind it is a FAULT at 500, not where it ends. */
+    private static void acrossFiveHundred() {
+        across("", "abc", "def");
+        across("", "a", "bcdef;");
+        across("a=1;", "ab", "c=1;");
+        across("ab=1;c=", "a", "b;");
+        across("ab=1;c=x*", "a", "b");
+        across("ab=1;c=(", "a", "b);");
+        across("field 8 283;a=", "25", "5;");
+        across("field 8 283;a=x+", "2", "55+x;");
+        across("a=x^", "1", "6;");
+        across("a=x^", "0", "16*x;");
+        across("a=", "gc", "d(1,1);");
+        across("", "fie", "ld 2 7;");
+        across("field ", "0", "08 283;");
+        across("field 8 ", "2", "83;");
+        across("", "tur", "n 0;");
+        across("turn ", "0", "00;");
+        across("slope ", "0", "01;");
+        fault(4, "xx=x;a=x^16|*" + " ".repeat(486) + "xx;");
+        fault(4, "a=(x^9)|^" + " ".repeat(491) + "02;");
+        fault(2, "a=x^" + " ".repeat(495) + "|17;");
+        fault(3, "a=" + " ".repeat(496) + "|bcd;");
+        fault(3, "a=1;" + " ".repeat(494) + "|turn 0;");
+        fault(1, "a=1;" + " ".repeat(494) + "|lgcd(1,1);");
+        fault(1, "a=" + " ".repeat(497) + "|1a;");
+    }
+
+    /** One TOKEN of two parts, the first of which ends at byte 500. */
+    private static void across(String ahead, String one, String other) {
+        fault(1, ahead + " ".repeat(500 - ahead.length() - one.length()) + one + "|" + other);
     }
 
     private static void staysOnFault() {

@@ -148,11 +148,19 @@ final class SplittingTest {
         int[][] limits = {{1, 3, 12}, {2, 7, 6}, {3, 11, 4}, {4, 19, 3}, {5, 37, 2}, {6, 67, 2}, {7, 131, 1}, {8, 283, 1}};
         for (int[] row : limits) {
             String field = "field " + row[0] + " " + row[1] + ";";
-            TurnedRing ring = Probe.of(field + "a=x^" + row[2] + ";b=x^" + (row[2] + 1) + ";c=x^16;d=x^" + row[2] + "+1;").ring;
+            TurnedRing ring = Probe.of(field + "a=x^" + row[2] + ";b=x^" + (row[2] + 1) + ";c=x^16;d=x^" + row[2] + "+1;e=1;").ring;
             Due.due("like, most of " + row[0], ring.like(0, 0), 1);
             Due.due("not like, most of " + row[0], ring.like(0, 3), 0);
             Due.due("like above the most of " + row[0], ring.like(1, 1), -2);
             Due.due("like far above the most of " + row[0], ring.like(2, 2), -2);
+            for (int i = 1; i < 3; i++) {
+                Due.due("like above the most of " + row[0] + ", of another degree", ring.like(i, 0), -2);
+                Due.due("like of another degree, above the most of " + row[0], ring.like(0, i), -2);
+                Due.due("like of two degrees above the most of " + row[0], ring.like(i, 3 - i), -2);
+                Due.due("like of a number, above the most of " + row[0], ring.like(4, i), -2);
+                Due.due("like above the most of " + row[0] + ", of a number", ring.like(i, 4), -2);
+            }
+            Due.due("like of two degrees, none above the most of " + row[0], ring.like(0, 4), 0);
         }
     }
 
