@@ -5,7 +5,6 @@ import java.util.Arrays;
  * 39 and 40). The comment of a test is the sentence, or its part, that it holds.
  */
 final class EdgesOfPolynomialsTest {
-    private static final int[] MODULI = {0, 3, 7, 11, 19, 37, 67, 131, 283};
     private static final int[] NO_NAMES = {-1, -2, 2, 11, 12, 13, Integer.MAX_VALUE, Integer.MIN_VALUE};
     private static final int[] NO_SIDES = {-1, 2, 3, Integer.MAX_VALUE, Integer.MIN_VALUE};
     private static final String FOUR = "field 2 7;turn 1;slope 1;";
@@ -40,14 +39,14 @@ final class EdgesOfPolynomialsTest {
     }
 
     private static Probe field(int m, int s, int c, String names) {
-        return Probe.of("field " + m + " " + MODULI[m] + ";turn " + s + ";slope " + c + ";" + names);
+        return Probe.field(m, s, c, names);
     }
 
     /** NUMBERS are 0 to 2^M - 1 (M 1 to 8); NONE: no such ones, no such one. */
     private static void numbersOfAllFields() {
         for (int m = 1; m <= 8; m++) {
             TurnedRing ring = field(m, m - 1, (1 << m) - 1, "a=x+1;").ring;
-            Naive naive = new Naive(m, MODULI[m], m - 1, (1 << m) - 1);
+            Naive naive = new Naive(m, Probe.MODULI[m], m - 1, (1 << m) - 1);
             int last = (1 << m) - 1;
             Due.due("the last by the last of " + m, ring.times(last, last), naive.mul(last, last));
             Due.due("0 by the last of " + m, ring.times(0, last), 0);
@@ -243,8 +242,9 @@ final class EdgesOfPolynomialsTest {
     /** As the steps of dividing f by g, g by r, and so on give them, taken MONIC at the end; 0 and 0: 0, 0. */
     private static void commonSteps() {
         Probe probe = Probe.of(FOUR + "a=2*x;b=0;c=3;d=x^16+1;");
-        String[][] due = {{"0 1", "3/", "0 1"}, {"1 0", "/3", "0 1"}, {"0 0", "/3", "0 1"}, {"1 1", "/", ""}, {"2 1", "2/", "1"},
-            {"1 2", "/2", "1"}, {"2 2", "/2", "1"}, {"0 2", "/2", "1"}, {"2 0", "2/", "1"}, {"3 3", "/1", "1 0 0 0 0 0 0 0 0 0 0 0 0 0 0 0 1"}};
+        String[][] due = {{"0 1", "3/", "0 1"}, {"1 0", "/3", "0 1"}, {"0 0", "/3", "0 1"}, {"1 1", "/", ""},
+            {"2 1", "2/", "1"}, {"1 2", "/2", "1"}, {"2 2", "/2", "1"}, {"0 2", "/2", "1"}, {"2 0", "2/", "1"},
+            {"3 3", "/1", "1 0 0 0 0 0 0 0 0 0 0 0 0 0 0 0 1"}};
         for (int k = 0; k < due.length; k++) {
             int i = due[k][0].charAt(0) - '0';
             int j = due[k][0].charAt(2) - '0';
@@ -354,7 +354,7 @@ final class EdgesOfPolynomialsTest {
     private static void keepOfAnotherField() {
         for (int m = 2; m <= 8; m++) {
             int size = 1 << m - 1;
-            String less = "field " + (m - 1) + " " + MODULI[m - 1] + ";b=1;";
+            String less = "field " + (m - 1) + " " + Probe.MODULI[m - 1] + ";b=1;";
             for (int j = 0; j <= 16; j += 4) {
                 Probe probe = field(m, 0, 0, "a=" + size + "*x^" + j + ";b=0;");
                 probe.ring.makes(0, 1, 0);
@@ -488,7 +488,7 @@ final class EdgesOfPolynomialsTest {
         }
     }
 
-    /** The greatest number that divides both: t leaves 2 to this numbers as they are, each a quotient of a CLASS, and one more for 0. */
+    /** The greatest number that divides both: t leaves as many numbers as 2 to this as they are, and so many CLASSES there are. */
     private static int divisor(int m, int s) {
         for (int by = m; by > 0; by--) {
             if (m % by == 0 && s % by == 0) {
@@ -564,7 +564,7 @@ final class EdgesOfPolynomialsTest {
         probe.bytes(2, 3, 1, 2).ring.register();
         int tap = probe.ring.tap(1);
         probe.ring.divides(1, 0, 0);
-        String results = probe.result(0) + "/" + probe.result(1) + "/" + probe.result(2) + "/" + probe.result(3);
+        String results = probe.results();
         probe.bytes(1, 2, 3, 3, 3);
         for (int times = 0; times < 3; times++) {
             Due.due("restore 0", probe.ring.restore(0), true);
@@ -575,7 +575,7 @@ final class EdgesOfPolynomialsTest {
             Due.throwsNoSuch("no NAMES", () -> probe.ring.degree(0));
             Due.due("its numbers", probe.ring.times(2, 2), -1);
             Due.due("nothing to undo", probe.ring.undo(), -1);
-            Due.due("RESULTS stay", probe.result(0) + "/" + probe.result(1) + "/" + probe.result(2) + "/" + probe.result(3), results);
+            Due.due("RESULTS stay", probe.results(), results);
             Due.due("register() stays", probe.ring.tap(1), tap);
             for (int k : new int[] {-1, 2, Integer.MAX_VALUE, Integer.MIN_VALUE}) {
                 Due.due("restore " + k, probe.ring.restore(k), false);
@@ -584,7 +584,7 @@ final class EdgesOfPolynomialsTest {
             Due.due("restore 1", probe.ring.restore(1), true);
             Due.due("its numbers", probe.ring.times(2, 2), 3);
             Due.due("16 can be undone", probe.ring.undo(), 15);
-            Due.due("RESULTS stay", probe.result(0) + "/" + probe.result(1) + "/" + probe.result(2) + "/" + probe.result(3), results);
+            Due.due("RESULTS stay", probe.results(), results);
             Due.due("the tape stays", probe.ring.count(8), 5);
         }
         probe.ring.end(0);

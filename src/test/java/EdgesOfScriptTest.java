@@ -3,8 +3,6 @@
  * just within it, and what is just beyond it. The comment of a test is the sentence, or its part, that it holds.
  */
 final class EdgesOfScriptTest {
-    /** For each M the least P. */
-    static final int[] MODULI = {0, 3, 7, 11, 19, 37, 67, 131, 283};
     private static final int[] FAR = {Integer.MIN_VALUE, Integer.MIN_VALUE + 1, -541, -2, -1, 541, 1 << 16, Integer.MAX_VALUE};
     private static final String[] WHATS = {"quo", "rem", "lquo", "lrem", "gcd", "lgcd", "lcm", "llcm"};
     private static final String TWELVE = "a=1;b=1;c=1;d=1;e=1;f=1;g=1;h=1;i=1;j=1;k=1;l=1;";
@@ -56,7 +54,7 @@ final class EdgesOfScriptTest {
 
     // Promises 1 to 3
 
-    /** The field of two numbers, no NAMES; RESULTS are 0; an empty tape. (And: 0 ahead of any; ahead of any; nothing is kept there.) */
+    /** The field of two numbers, no NAMES; RESULTS are 0; an empty tape; and what else is told of the time ahead of any call. */
     private static void newObject() {
         TurnedRing ring = new TurnedRing();
         Due.due("new: M", ring.count(0), 1);
@@ -160,8 +158,9 @@ final class EdgesOfScriptTest {
         probe.bytes(1, 1).ring.points();
         probe.bytes(1, 1, 1);
         TurnedRing ring = probe.ring;
-        Reading[] others = {TurnedRing::fault, x -> x.times(1, 1), x -> x.degree(0), x -> x.makes(0, 0, 1), x -> x.divides(0, 0, 0),
-            x -> x.common(0, 0, 0), x -> x.multiple(0, 0, 1), x -> x.keep(0, 0) ? 1 : 0, TurnedRing::undo, x -> x.roots(0, -1),
+        Reading[] others = {TurnedRing::fault, x -> x.times(1, 1), x -> x.degree(0), x -> x.makes(0, 0, 1),
+            x -> x.divides(0, 0, 0), x -> x.common(0, 0, 0), x -> x.multiple(0, 0, 1), x -> x.keep(0, 0) ? 1 : 0,
+            TurnedRing::undo, x -> x.roots(0, -1),
             TurnedRing::classes, x -> x.divisors(0, 1, 0), x -> x.factorings(0), x -> x.like(0, 0), x -> x.norm(0),
             x -> x.weight(0, 3), x -> x.word(0, 0), x -> x.distance(1), x -> x.tap(1), x -> x.image(0) ? 1 : 0,
             x -> x.restore(0) ? 1 : 0};
@@ -220,7 +219,8 @@ final class EdgesOfScriptTest {
                 fault("a=" + word.substring(0, Math.min(length, 530)) + ";", 1, 2);
             }
         }
-        String[] same = {"abcdef", "abcdeg", "bbcdef", "abcde", "bcdef", "abddef", "aaaaaa", "aaaaab", "zzzzzz", "zzzzzy", "a", "aa"};
+        String[] same = {"abcdef", "abcdeg", "bbcdef", "abcde", "bcdef", "abddef", "aaaaaa", "aaaaab", "zzzzzz",
+            "zzzzzy", "a", "aa"};
         StringBuilder text = new StringBuilder();
         for (String word : same) {
             text.append(word).append("=x^").append(text.length() % 17).append(';');
@@ -240,8 +240,8 @@ final class EdgesOfScriptTest {
         for (String number : new String[] {"256", "300", "512", "999"}) {
             fault(field + number + ";", 2, 14);
         }
-        for (String number : new String[] {"0000", "0001", "1000", "0255", "9999", "00000", "4294967296", "18446744073709551617",
-            "0".repeat(300)}) {
+        for (String number : new String[] {"0000", "0001", "1000", "0255", "9999", "00000", "4294967296",
+            "18446744073709551617", "0".repeat(300)}) {
             fault(field + number + ";", 1, 14);
             fault("field " + number + " 3;", 1, 6);
             fault("field 1 " + number + ";", 1, 8);
@@ -361,9 +361,9 @@ final class EdgesOfScriptTest {
             fault("field " + m, 2, 6);
         }
         for (int m = 1; m <= 8; m++) {
-            Probe told = Probe.of("field " + m + " " + MODULI[m] + ";");
+            Probe told = Probe.of("field " + m + " " + Probe.MODULI[m] + ";");
             Due.due("M of " + m, told.ring.count(0), m);
-            Due.due("P of " + m, told.ring.count(1), MODULI[m]);
+            Due.due("P of " + m, told.ring.count(1), Probe.MODULI[m]);
             Due.due("no turn of " + m, told.ring.count(2), 0);
             Due.due("no slope of " + m, told.ring.count(3), 0);
         }
@@ -376,7 +376,7 @@ final class EdgesOfScriptTest {
     /** 'turn' S (0 without; below M) | 'slope' C (a number of the field; 0 without). */
     private static void turnsAndSlopes() {
         for (int m = 1; m <= 8; m++) {
-            String field = "field " + m + " " + MODULI[m] + ";";
+            String field = "field " + m + " " + Probe.MODULI[m] + ";";
             int place = field.length();
             for (int s = 0; s <= 10; s++) {
                 if (s < m) {
@@ -668,7 +668,7 @@ final class EdgesOfScriptTest {
         probe.bytes(1, 2, 4).ring.points();
         probe.ring.common(0, 1, 0);
         probe.ring.divides(1, 0, 1);
-        String results = probe.result(0) + "/" + probe.result(1) + "/" + probe.result(2) + "/" + probe.result(3);
+        String results = probe.results();
         Due.due("none of them is 0", ("/" + results + "/").contains("//"), false);
         probe.ring.keep(0, 1);
         for (String text : new String[] {"", "c=1;", "field 2 7;", TWELVE}) {
@@ -679,13 +679,11 @@ final class EdgesOfScriptTest {
             Due.due("undo", probe.ring.undo(), -1);
             Due.due("no turn", probe.ring.count(2), 0);
             Due.due("no slope", probe.ring.count(3), 0);
-            Due.due("RESULTS stay",
-                probe.result(0) + "/" + probe.result(1) + "/" + probe.result(2) + "/" + probe.result(3), results);
+            Due.due("RESULTS stay", probe.results(), results);
             probe.bytes(1, 1).ring.points();
             probe.ring.image(0);
             probe.ring.restore(0);
-            Due.due("RESULTS stay by a restore",
-                probe.result(0) + "/" + probe.result(1) + "/" + probe.result(2) + "/" + probe.result(3), results);
+            Due.due("RESULTS stay by a restore", probe.results(), results);
         }
     }
 

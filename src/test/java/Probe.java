@@ -2,6 +2,9 @@ import java.util.StringJoiner;
 
 /** A new object, fed with texts and rows of bytes. */
 final class Probe {
+    /** For each M the least P. */
+    static final int[] MODULI = {0, 3, 7, 11, 19, 37, 67, 131, 283};
+
     final TurnedRing ring = new TurnedRing();
 
     static Probe of(String script) {
@@ -11,6 +14,10 @@ final class Probe {
             Due.due("script " + script, lines, 0);
         }
         return probe;
+    }
+
+    static Probe field(int m, int s, int c, String lines) {
+        return of("field " + m + " " + MODULI[m] + ";turn " + s + ";slope " + c + ";" + lines);
     }
 
     Probe bytes(int... row) {
@@ -51,6 +58,11 @@ final class Probe {
             joined.add(Integer.toString(ring.result(k, j)));
         }
         return joined.toString();
+    }
+
+    /** All four RESULTS. */
+    String results() {
+        return result(0) + "/" + result(1) + "/" + result(2) + "/" + result(3);
     }
 
     int[] numbersOfName(int i) {
