@@ -488,7 +488,7 @@ final class EdgesOfPolynomialsTest {
         }
     }
 
-    /** The greatest number that divides both: t leaves as many numbers as 2 to this as they are, and so many CLASSES there are. */
+    /** The greatest number that divides both: 2 to it numbers are left by t as they are, and so many CLASSES there are. */
     private static int divisor(int m, int s) {
         for (int by = m; by > 0; by--) {
             if (m % by == 0 && s % by == 0) {

@@ -1,3 +1,5 @@
+import java.util.Arrays;
+
 /**
  * Each sentence of the document that names an edge, from the new object to the FAULTS (promises 1 to 5 and 41): what is
  * just within it, and what is just beyond it. The comment of a test is the sentence, or its part, that it holds.
@@ -14,6 +16,7 @@ final class EdgesOfScriptTest {
         newObject();
         fullTape();
         endOfTape();
+        bytesBehindTheEnd();
         emptiedTape();
         blanks();
         signs();
@@ -54,7 +57,7 @@ final class EdgesOfScriptTest {
 
     // Promises 1 to 3
 
-    /** The field of two numbers, no NAMES; RESULTS are 0; an empty tape; and what else is told of the time ahead of any call. */
+    /** The field of two numbers, no NAMES; RESULTS are 0; an empty tape; and what else is told of the time ahead of calls. */
     private static void newObject() {
         TurnedRing ring = new TurnedRing();
         Due.due("new: M", ring.count(0), 1);
@@ -132,6 +135,49 @@ final class EdgesOfScriptTest {
         Due.due("end 0", ring.end(0), true);
         Due.due("an empty tape", ring.count(8), 0);
         Due.due("and an empty SCRIPT", ring.script(), 0);
+    }
+
+    /** The tape has its first n bytes alone: what stood behind them, or in an older tape, is not read by any call. */
+    private static void bytesBehindTheEnd() {
+        Reading[] readings = {TurnedRing::script, TurnedRing::least, TurnedRing::rank, TurnedRing::sumRank,
+            TurnedRing::points, ring -> ring.mend(1), ring -> ring.mend(4), TurnedRing::register};
+        String[] heads = {"", "field 2 7;turn 1;", "field 8 283;turn 3;slope 7;"};
+        int[][] tapes = {{}, {1}, {1, 1}, {1, 2, 3}, {2, 1, 2, 1, 0, 1}, {1, 1, 1, 0, 1, 1, 1}, {1, 0, 1, 0, 1, 0, 1, 0},
+            new int[8], new int[9], new int[15], new int[16], "abcdef".chars().toArray(), "a=1;b=x".chars().toArray(),
+            "a=1;b=1".chars().toArray(), "a=001".chars().toArray(), "a=1;abcdef=a+a;".chars().toArray()};
+        for (String head : heads) {
+            for (int[] tape : tapes) {
+                for (int which = 0; which < readings.length; which++) {
+                    String due = readWith(head, tape, readings[which], 0);
+                    for (int junk : new int[] {1, ' ', '0', ';', 'a', 255}) {
+                        String about = "reading " + which + " of " + Arrays.toString(tape) + " in " + head;
+                        Due.due(about + " ahead of " + junk, readWith(head, tape, readings[which], junk), due);
+                    }
+                }
+            }
+        }
+        fault("abcdef", 1, 6);
+        Probe probe = new Probe();
+        probe.script("abcdefg=1;");
+        Due.due("a WORD as long as the tape, behind a longer one", probe.script("abcdef"), -7);
+        probe.script("a=1234567;");
+        Due.due("a NUMBER as long as the tape, behind a longer one", probe.script("a=001"), -6);
+    }
+
+    /** What the call answers and leaves, where the tape's bytes have such ones behind them (0: none were ever there). */
+    private static String readWith(String head, int[] tape, Reading reading, int junk) {
+        Probe probe = Probe.of(head);
+        if (junk != 0) {
+            int[] full = new int[540];
+            Arrays.fill(full, junk);
+            probe.bytes(full).ring.rank();
+        }
+        probe.bytes(1, 1, 0, 1, 1, 1, 0, 1).ring.points();
+        int[] longer = Arrays.copyOf(tape, tape.length + 40);
+        Arrays.fill(longer, tape.length, longer.length, junk);
+        probe.bytes(longer).ring.end(tape.length);
+        long answer = reading.read(probe.ring);
+        return answer + " " + probe.ring.fault() + " " + probe.all() + probe.ring.tap(1) + " " + probe.ring.tap(2);
     }
 
     private interface Reading {

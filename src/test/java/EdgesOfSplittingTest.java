@@ -1,3 +1,8 @@
+import java.util.ArrayList;
+import java.util.Arrays;
+import java.util.List;
+import java.util.Random;
+
 /**
  * Each sentence of the document that names an edge, of divisors, factorings, likeness and norms (promises 25 to 29). The
  * comment of a test is the sentence, or its part, that it holds.
@@ -20,6 +25,7 @@ final class EdgesOfSplittingTest {
         factorsOutside();
         factoringsRefused();
         factoringsInOrder();
+        factoringsOfTheMost();
         likeOfEachDegree();
         likeRefused();
         likeOfNumbers();
@@ -201,6 +207,45 @@ final class EdgesOfSplittingTest {
             p++;
         }
         return p - 1;
+    }
+
+    /** All factorings of the highest degrees that are told: none of the factors is divided by one of a lesser degree. */
+    private static void factoringsOfTheMost() {
+        Random random = new Random(25);
+        int[][] fields = {{1, 0, 0, 6}, {2, 0, 0, 6}, {2, 1, 2, 6}, {3, 0, 0, 5}, {3, 1, 0, 5}, {3, 2, 5, 5}, {4, 0, 0, 4},
+            {4, 1, 9, 4}, {4, 2, 3, 4}, {5, 1, 0, 3}, {6, 3, 7, 3}, {7, 1, 1, 2}, {8, 4, 0, 2}};
+        for (int[] told : fields) {
+            Naive naive = new Naive(told[0], Probe.MODULI[told[0]], told[1], told[2]);
+            for (int k = 0; k < 10; k++) {
+                int[] f = {1};
+                while (Naive.deg(f) < told[3]) {
+                    int n = Math.min(told[3] - Naive.deg(f), 1 + random.nextInt(2));
+                    f = naive.times(f, naive.monicOf(n, random.nextInt(naive.many(n))));
+                }
+                factoringsOf(naive, f);
+            }
+        }
+        for (int s = 0; s < 2; s++) {
+            Naive naive = new Naive(3, 11, s, 0);
+            for (int low = 32; low < 64; low += 3) {
+                int[] twice = naive.times(naive.monicOf(2, low), naive.monicOf(2, low));
+                factoringsOf(naive, naive.times(new int[] {1, 1}, twice));
+            }
+        }
+    }
+
+    private static void factoringsOf(Naive naive, int[] f) {
+        List<int[]> due = new ArrayList<>();
+        new RightFactors(naive).all(f, new int[0], due);
+        TurnedRing ring = Probe.of(naive.script() + "a=" + AgainstNaive.written(f) + ";").ring;
+        String about = "of " + Arrays.toString(f) + " in " + naive.script();
+        Due.due("how many " + about, ring.factorings(0), due.size());
+        for (int i = 0; i < due.size() && i < 40; i++) {
+            for (int p = 0; p <= due.get(i).length; p++) {
+                int want = p < due.get(i).length ? due.get(i)[p] : -1;
+                Due.due("factor " + i + " " + p + " " + about, ring.factor(0, i, p), want);
+            }
+        }
     }
 
     /** 1: NAMES i, j are LIKE, 0: not; more than 4096 (2^M)^degree. */

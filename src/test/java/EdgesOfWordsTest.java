@@ -26,6 +26,7 @@ final class EdgesOfWordsTest {
         dimensions();
         distancesOfFew();
         mendsOddTapes();
+        mendsBytesBehind();
         mendsCut();
         mendsNoneOrSome();
         registersOfEachLength();
@@ -326,6 +327,26 @@ final class EdgesOfWordsTest {
         }
         Due.due("without POINTS", new TurnedRing().mend(1), -3);
         Due.due("without POINTS, dimension 0", new TurnedRing().mend(0), -3);
+    }
+
+    /** The tape's word is its first bytes alone, as many as POINTS; of eight numbers of eight bits, too. */
+    private static void mendsBytesBehind() {
+        Probe probe = field(8, 1, "");
+        int[] points = {1, 2, 4, 8, 16, 32, 64, 128};
+        probe.bytes(points).ring.points();
+        for (int junk : new int[] {0, 2, 85, 254, 255}) {
+            int[] tape = row(40, junk);
+            System.arraycopy(points, 0, tape, 0, 8);
+            tape[5] ^= 1;
+            tape[6] ^= 2;
+            tape[7] ^= 4;
+            probe.bytes(tape).ring.end(8);
+            Due.due("RANK 3 of seven left, ahead of " + junk, probe.ring.mend(1), 0);
+            Due.due("it", probe.result(0), "1");
+            tape[4] ^= 8;
+            probe.bytes(tape).ring.end(8);
+            Due.due("RANK 4 of seven left, ahead of " + junk, probe.ring.mend(1), -2);
+        }
     }
 
     /** By a RANK of (POINTS less k) by 2, cut, or less. */
