@@ -1593,7 +1593,7 @@ public final class TurnedRing {
             return wanted != ALL && found > wanted;
         }
 
-        /** All factorings of what is left behind so many factors; where none of a lesser degree divides it, it is a factor itself. */
+        /** All factorings of what is left behind so many factors; a factor itself, where none of a lesser degree divides it. */
         private void search(Ring ring, int depth) {
             if (depth < 0 || depth > MOST_FACTORED) {
                 return;
@@ -1901,7 +1901,7 @@ public final class TurnedRing {
             for (int i = Math.min(tried, MOST_WORD); i >= 1; i--) {
                 solvedBy[i] = NONE;
                 int found = rowWith(i, done);
-                if (found != NONE) {
+                if (found != NONE && done < MOST_WORD) {
                     swapRows(found, done);
                     clearColumn(field, i, done, tried);
                     solvedBy[i] = done;
